@@ -27,15 +27,15 @@ public final class FilesTest {
         DUE.end();
     }
 
-    private static BuddyFiles down() {
-        BuddyFiles x = new BuddyFiles();
+    private static Counted down() {
+        Counted x = new Counted();
         x.create(1, 0);
         x.crashAfter(0);
         x.sync();
         return x;
     }
 
-    private static void isFresh(String when, BuddyFiles x) {
+    private static void isFresh(String when, Counted x) {
         for (int cell = 0; cell < 332; cell++) {
             boolean quota = cell >= 42 && cell <= 44;
             DUE.is(when + " peek(" + cell + ")", x.peek(cell), quota ? 32 : 0);
@@ -59,11 +59,11 @@ public final class FilesTest {
     }
 
     private static void newObject() {
-        isFresh("new", new BuddyFiles());
+        isFresh("new", new Counted());
     }
 
     private static void formatWhileUp() {
-        BuddyFiles x = new BuddyFiles();
+        Counted x = new Counted();
         x.create(1, 0);
         x.create(2, 1);
         x.open(1);
@@ -77,17 +77,19 @@ public final class FilesTest {
     }
 
     private static void formatWhileDown() {
-        BuddyFiles x = down();
-        for (int cell = 0; cell < 332; cell++) {
-            x.corrupt(cell, -7 - cell);
+        for (int part = 0; part < 4; part++) {
+            Counted x = down();
+            for (int cell = part; cell < 332; cell += 4) {
+                x.corrupt(cell, -7 - cell);
+            }
+            DUE.is("spoilt", x.fsck() != 0, true);
+            x.format();
+            isFresh("format down", x);
         }
-        DUE.is("spoilt", x.fsck(), 1);
-        x.format();
-        isFresh("format down", x);
     }
 
     private static void formatDropsTheFuse() {
-        BuddyFiles x = new BuddyFiles();
+        Counted x = new Counted();
         x.crashAfter(0);
         x.format();
         x.setQuota(0, 1);
@@ -95,7 +97,7 @@ public final class FilesTest {
     }
 
     private static void formatDropsTheJournal() {
-        BuddyFiles x = new BuddyFiles();
+        Counted x = new Counted();
         x.create(1, 0);
         x.crashAfter(4);
         x.sync();
@@ -105,7 +107,7 @@ public final class FilesTest {
     }
 
     private static void createAnswersTheLeastSlot() {
-        BuddyFiles x = new BuddyFiles();
+        Counted x = new Counted();
         DUE.is("create 1", x.create(1, 0), 0);
         DUE.is("create 99", x.create(99, 2), 1);
         DUE.is("create 50", x.create(50, 1), 2);
@@ -125,7 +127,7 @@ public final class FilesTest {
     }
 
     private static void createRefuses() {
-        BuddyFiles x = new BuddyFiles();
+        Counted x = new Counted();
         for (int name : NO_NAMES) {
             DUE.is("create name " + name, x.create(name, 0), BuddyFiles.BAD_ARGUMENT);
         }
@@ -143,7 +145,7 @@ public final class FilesTest {
     }
 
     private static void createRefusesInOrder() {
-        BuddyFiles x = new BuddyFiles();
+        Counted x = new Counted();
         x.create(1, 0);
         DUE.is("bad owner before exists", x.create(1, 3), BuddyFiles.BAD_ARGUMENT);
         for (int k = 2; k <= 6; k++) {
@@ -155,7 +157,7 @@ public final class FilesTest {
     }
 
     private static void unlinkTakesAway() {
-        BuddyFiles x = new BuddyFiles();
+        Counted x = new Counted();
         x.create(1, 2);
         x.create(2, 1);
         x.open(1);
@@ -183,7 +185,7 @@ public final class FilesTest {
     }
 
     private static void unlinkRefuses() {
-        BuddyFiles x = new BuddyFiles();
+        Counted x = new Counted();
         x.create(1, 0);
         for (int name : NO_NAMES) {
             DUE.is("unlink " + name, x.unlink(name), BuddyFiles.NO_FILE);
@@ -201,7 +203,7 @@ public final class FilesTest {
     }
 
     private static void openAnswersTheLeastHandle() {
-        BuddyFiles x = new BuddyFiles();
+        Counted x = new Counted();
         x.create(1, 0);
         x.create(2, 0);
         DUE.is("open 1", x.open(1), 0);
@@ -218,7 +220,7 @@ public final class FilesTest {
     }
 
     private static void openRefuses() {
-        BuddyFiles x = new BuddyFiles();
+        Counted x = new Counted();
         x.create(1, 0);
         for (int name : NO_NAMES) {
             DUE.is("open " + name, x.open(name), BuddyFiles.NO_FILE);
@@ -233,7 +235,7 @@ public final class FilesTest {
     }
 
     private static void closeCloses() {
-        BuddyFiles x = new BuddyFiles();
+        Counted x = new Counted();
         x.create(1, 0);
         x.open(1);
         x.open(1);
@@ -245,7 +247,7 @@ public final class FilesTest {
     }
 
     private static void closeRefuses() {
-        BuddyFiles x = new BuddyFiles();
+        Counted x = new Counted();
         x.create(1, 0);
         for (int handle : NO_HANDLES) {
             DUE.is("close " + handle, x.close(handle), BuddyFiles.BAD_HANDLE);
@@ -257,7 +259,7 @@ public final class FilesTest {
     }
 
     private static void renameNames() {
-        BuddyFiles x = new BuddyFiles();
+        Counted x = new Counted();
         x.create(1, 2);
         x.open(1);
         x.write(0, 2, 33);
@@ -272,7 +274,7 @@ public final class FilesTest {
     }
 
     private static void renameReplaces() {
-        BuddyFiles x = new BuddyFiles();
+        Counted x = new Counted();
         x.create(1, 0);
         x.create(2, 1);
         x.open(1);
@@ -293,7 +295,7 @@ public final class FilesTest {
     }
 
     private static void renameRefuses() {
-        BuddyFiles x = new BuddyFiles();
+        Counted x = new Counted();
         x.create(1, 0);
         x.create(2, 0);
         for (int name : NO_NAMES) {
@@ -310,7 +312,7 @@ public final class FilesTest {
     }
 
     private static void allRefuseWhenDown() {
-        BuddyFiles x = down();
+        Counted x = down();
         DUE.is("create", x.create(1, 0), BuddyFiles.DOWN);
         DUE.is("create bad", x.create(0, 9), BuddyFiles.DOWN);
         DUE.is("unlink", x.unlink(1), BuddyFiles.DOWN);

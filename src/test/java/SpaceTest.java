@@ -23,8 +23,8 @@ public final class SpaceTest {
     }
 
     /** Files 1 .. count with handles 0 .. count - 1, of the owners 0, 1, 2, 0. */
-    private static BuddyFiles withFiles(int count) {
-        BuddyFiles x = new BuddyFiles();
+    private static Counted withFiles(int count) {
+        Counted x = new Counted();
         for (int k = 0; k < count; k++) {
             x.create(1 + k, k % 3);
             x.open(1 + k);
@@ -36,14 +36,14 @@ public final class SpaceTest {
         return 1 + first + 32 * order;
     }
 
-    private static void freeIs(String when, BuddyFiles x, int... counts) {
+    private static void freeIs(String when, Counted x, int... counts) {
         for (int order = 0; order <= 5; order++) {
             DUE.is(when + " free(" + order + ")", x.free(order), counts[order]);
         }
     }
 
     private static void setQuotaSets() {
-        BuddyFiles x = new BuddyFiles();
+        Counted x = new Counted();
         DUE.is("owner 0", x.setQuota(0, 0), 0);
         DUE.is("owner 1", x.setQuota(1, 31), 0);
         DUE.is("owner 2", x.setQuota(2, 32), 0);
@@ -56,7 +56,7 @@ public final class SpaceTest {
     }
 
     private static void setQuotaRefuses() {
-        BuddyFiles x = withFiles(1);
+        Counted x = withFiles(1);
         for (int owner : NO_OWNERS) {
             DUE.is("owner " + owner, x.setQuota(owner, 1), BuddyFiles.BAD_ARGUMENT);
         }
@@ -76,7 +76,7 @@ public final class SpaceTest {
     }
 
     private static void quotaBoundsAllFilesOfAnOwner() {
-        BuddyFiles x = withFiles(4);
+        Counted x = withFiles(4);
         x.setQuota(0, 3);
         DUE.is("one file", x.truncate(0, 4), 0);
         DUE.is("both files", x.truncate(3, 3), BuddyFiles.OVER_QUOTA);
@@ -89,7 +89,7 @@ public final class SpaceTest {
     }
 
     private static void usageCounts() {
-        BuddyFiles x = withFiles(4);
+        Counted x = withFiles(4);
         DUE.is("nothing", x.usage(0), 0);
         x.truncate(0, 5);
         x.truncate(3, 1);
@@ -103,14 +103,14 @@ public final class SpaceTest {
     }
 
     private static void usageRefuses() {
-        BuddyFiles x = withFiles(1);
+        Counted x = withFiles(1);
         for (int owner : NO_OWNERS) {
             DUE.is("owner " + owner, x.usage(owner), BuddyFiles.BAD_ARGUMENT);
         }
     }
 
     private static void freeCounts() {
-        BuddyFiles x = withFiles(4);
+        Counted x = withFiles(4);
         freeIs("all", x, 0, 0, 0, 0, 0, 1);
         x.truncate(0, 2);
         freeIs("one used", x, 1, 1, 1, 1, 1, 0);
@@ -134,7 +134,7 @@ public final class SpaceTest {
     }
 
     private static void freeRefuses() {
-        BuddyFiles x = withFiles(1);
+        Counted x = withFiles(1);
         int[] orders = {-1, 6, 31, 32, Integer.MIN_VALUE, Integer.MAX_VALUE};
         for (int order : orders) {
             DUE.is("order " + order, x.free(order), BuddyFiles.BAD_ARGUMENT);
@@ -143,7 +143,7 @@ public final class SpaceTest {
 
     private static void eachLengthTakesTheLeastOrder() {
         for (int length = 1; length <= 64; length++) {
-            BuddyFiles x = withFiles(1);
+            Counted x = withFiles(1);
             DUE.is("truncate " + length, x.truncate(0, length), 0);
             int order = 0;
             while (2 << order < length) {
@@ -159,7 +159,7 @@ public final class SpaceTest {
 
     /** Blocks 0 and 2 .. 3 become free while 1 and 4 .. 7 are used: one run of each of the orders 0, 1, 3, 4. */
     private static void takesTheLeastOrderThenTheFirst() {
-        BuddyFiles x = withFiles(4);
+        Counted x = withFiles(4);
         x.truncate(0, 2);
         x.truncate(1, 2);
         x.truncate(2, 4);
@@ -190,7 +190,7 @@ public final class SpaceTest {
     }
 
     private static void takesTheGreatestSmallerOrder() {
-        BuddyFiles x = withFiles(3);
+        Counted x = withFiles(3);
         x.truncate(0, 1);
         DUE.is("64 words need a fifth run", x.truncate(1, 64), BuddyFiles.NO_SPACE);
         DUE.is("60 words", x.truncate(1, 60), 0);
@@ -217,7 +217,7 @@ public final class SpaceTest {
     }
 
     private static void aFifthExtentIsNoSpace() {
-        BuddyFiles x = withFiles(2);
+        Counted x = withFiles(2);
         for (int k = 0; k < 4; k++) {
             x.truncate(0, 2 * k + 2);
             x.truncate(1, 2 * k + 2);
@@ -232,7 +232,7 @@ public final class SpaceTest {
     }
 
     private static void refusedGrowthPutsAllBack() {
-        BuddyFiles x = withFiles(3);
+        Counted x = withFiles(3);
         x.truncate(0, 1);
         x.truncate(1, 2);
         x.write(0, 0, 77);
@@ -253,7 +253,7 @@ public final class SpaceTest {
     }
 
     private static void shrinkingKeepsTheLastRunNeeded() {
-        BuddyFiles x = withFiles(1);
+        Counted x = withFiles(1);
         x.truncate(0, 64);
         x.truncate(0, 1);
         DUE.is("the one run", x.extent(0, 0), run(0, 5));
@@ -270,7 +270,7 @@ public final class SpaceTest {
         int[] cells = {run(0, 0), run(16, 4), run(8, 3), run(4, 2)};
         int[] blocks = {0, 1, 17, 25, 29};
         for (int i = 0; i < lengths.length; i++) {
-            BuddyFiles x = withFiles(1);
+            Counted x = withFiles(1);
             x.truncate(0, 1);
             DUE.is("grow", x.truncate(0, 58), 0);
             DUE.is("shrink", x.truncate(0, lengths[i]), 0);
@@ -284,7 +284,7 @@ public final class SpaceTest {
     }
 
     private static void allRefuseWhenDown() {
-        BuddyFiles x = withFiles(1);
+        Counted x = withFiles(1);
         x.crashAfter(0);
         x.sync();
         DUE.is("setQuota", x.setQuota(0, 1), BuddyFiles.DOWN);

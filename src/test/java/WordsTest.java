@@ -23,15 +23,15 @@ public final class WordsTest {
         DUE.end();
     }
 
-    private static BuddyFiles withFile() {
-        BuddyFiles x = new BuddyFiles();
+    private static Counted withFile() {
+        Counted x = new Counted();
         x.create(1, 0);
         x.open(1);
         return x;
     }
 
     private static void writeWrites() {
-        BuddyFiles x = withFile();
+        Counted x = withFile();
         int[] words = {1, 0, -1, Integer.MIN_VALUE, Integer.MAX_VALUE};
         for (int p = 0; p < words.length; p++) {
             DUE.is("write " + p, x.write(0, p, words[p]), 0);
@@ -47,7 +47,7 @@ public final class WordsTest {
     }
 
     private static void writeFillsWithZeros() {
-        BuddyFiles x = withFile();
+        Counted x = withFile();
         x.truncate(0, 10);
         for (int p = 0; p < 10; p++) {
             x.write(0, p, 100 + p);
@@ -63,7 +63,7 @@ public final class WordsTest {
     }
 
     private static void writeReachesEveryWord() {
-        BuddyFiles x = withFile();
+        Counted x = withFile();
         DUE.is("the last position", x.write(0, 63, 63), 0);
         DUE.is("length", x.length(0), 64);
         for (int p = 0; p < 64; p++) {
@@ -77,7 +77,7 @@ public final class WordsTest {
 
     /** Two files grow by turns, so that the runs of each lie apart. */
     private static void writeCrossesRuns() {
-        BuddyFiles x = withFile();
+        Counted x = withFile();
         x.create(2, 1);
         x.open(2);
         for (int p = 0; p < 8; p += 2) {
@@ -102,7 +102,7 @@ public final class WordsTest {
     }
 
     private static void writeRefuses() {
-        BuddyFiles x = withFile();
+        Counted x = withFile();
         for (int handle : NO_HANDLES) {
             DUE.is("write handle " + handle, x.write(handle, 0, 1), BuddyFiles.BAD_HANDLE);
             DUE.is("bad handle before position", x.write(handle, 64, 1), BuddyFiles.BAD_HANDLE);
@@ -114,7 +114,7 @@ public final class WordsTest {
     }
 
     private static void writeRefusesWhenFull() {
-        BuddyFiles x = withFile();
+        Counted x = withFile();
         x.create(2, 1);
         x.open(2);
         x.truncate(1, 64);
@@ -128,7 +128,7 @@ public final class WordsTest {
     }
 
     private static void writeRefusesOverQuota() {
-        BuddyFiles x = withFile();
+        Counted x = withFile();
         x.setQuota(0, 2);
         DUE.is("within", x.write(0, 3, 1), 0);
         DUE.is("above", x.write(0, 4, 1), BuddyFiles.OVER_QUOTA);
@@ -142,7 +142,7 @@ public final class WordsTest {
     }
 
     private static void readAnswersZeroOutside() {
-        BuddyFiles x = withFile();
+        Counted x = withFile();
         x.write(0, 2, 7);
         DUE.is("last", x.read(0, 2), 7);
         DUE.is("at the length", x.read(0, 3), 0);
@@ -156,7 +156,7 @@ public final class WordsTest {
     }
 
     private static void truncateShrinks() {
-        BuddyFiles x = withFile();
+        Counted x = withFile();
         for (int p = 0; p < 12; p++) {
             x.write(0, p, 50 + p);
         }
@@ -182,7 +182,7 @@ public final class WordsTest {
     }
 
     private static void truncateGrows() {
-        BuddyFiles x = withFile();
+        Counted x = withFile();
         DUE.is("to 64", x.truncate(0, 64), 0);
         DUE.is("length", x.length(0), 64);
         DUE.is("one run", x.extent(0, 0), 161);
@@ -199,7 +199,7 @@ public final class WordsTest {
     }
 
     private static void truncateStays() {
-        BuddyFiles x = withFile();
+        Counted x = withFile();
         DUE.is("at 0", x.truncate(0, 0), 0);
         x.write(0, 4, 9);
         x.sync();
@@ -209,7 +209,7 @@ public final class WordsTest {
     }
 
     private static void truncateRefuses() {
-        BuddyFiles x = withFile();
+        Counted x = withFile();
         for (int handle : NO_HANDLES) {
             DUE.is("truncate handle " + handle, x.truncate(handle, 0), BuddyFiles.BAD_HANDLE);
             DUE.is("bad handle first", x.truncate(handle, 65), BuddyFiles.BAD_HANDLE);
@@ -233,7 +233,7 @@ public final class WordsTest {
     }
 
     private static void lengthAnswers() {
-        BuddyFiles x = withFile();
+        Counted x = withFile();
         DUE.is("new", x.length(0), 0);
         x.write(0, 63, 0);
         DUE.is("full", x.length(0), 64);
@@ -247,7 +247,7 @@ public final class WordsTest {
     }
 
     private static void extentAnswers() {
-        BuddyFiles x = withFile();
+        Counted x = withFile();
         x.write(0, 5, 1);
         DUE.is("extent 0", x.extent(0, 0), 1 + 32 * 2);
         for (int k = 1; k < 4; k++) {
@@ -264,7 +264,7 @@ public final class WordsTest {
     }
 
     private static void allRefuseWhenDown() {
-        BuddyFiles x = withFile();
+        Counted x = withFile();
         x.write(0, 0, 5);
         x.sync();
         x.write(0, 0, 6);
