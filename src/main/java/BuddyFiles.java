@@ -260,7 +260,7 @@ public final class BuddyFiles {
         if (writeJournal(changes) && writeHome() && writeCell(Disk.COUNT, 0)) {
             return changes;
         }
-        goDown();
+        up = false;
         return DOWN;
     }
 
@@ -317,22 +317,13 @@ public final class BuddyFiles {
         goUp();
     }
 
+    /** Handles and fuse are cleared here and not when it goes down: nothing asks for them in between. */
     private void goUp() {
-        closeAllHandles();
-        fuse = NONE;
-        up = true;
-    }
-
-    private void goDown() {
-        closeAllHandles();
-        fuse = NONE;
-        up = false;
-    }
-
-    private void closeAllHandles() {
         for (int h = 0; h < HANDLES; h++) {
             slotOfHandle[h] = NONE;
         }
+        fuse = NONE;
+        up = true;
     }
 
     private int closedHandle() {
@@ -379,7 +370,7 @@ public final class BuddyFiles {
         return changes;
     }
 
-    /** False when the fuse stopped it. The number comes last: until it stands, the journal must not hold. */
+    /** False when the fuse stopped it. The number comes last: only with it does the journal hold. */
     private boolean writeJournal(int changes) {
         int check = changes;
         int pair = Disk.PAIRS;
@@ -637,7 +628,10 @@ public final class BuddyFiles {
             return (length + 1) / 2;
         }
 
-        /** 0, or the code of the refusal: then all is put back as it was. New words are 0 already, as all that belong to no file. */
+        /**
+         * 0, or the code of the refusal: then all is put back as it was. The new words are 0 already, as are all
+         * words that belong to no file.
+         */
         int grow(int slot, int length) {
             int mapBefore = cells[MAP];
             int runsBefore = runsOf(slot);
