@@ -1,6 +1,16 @@
 /** Promises 19 to 21: corrupt, fsck, peek; each clause of a clean home, and when the journal holds. */
 public final class CheckerTest {
     private static final int[] NO_CELLS = {-1, 332, 333, Integer.MIN_VALUE, Integer.MAX_VALUE};
+    /** For each clause two ways to break it in the sample, the one in an early and the other in a late cell. */
+    private static final int[][][] BREAKERS = {
+        {{1, 3}, {37, 65}},
+        {{7, 10}, {35, 20}},
+        {{6, 9}, {21, 88, 27, 31}},
+        {{9, 2, 10, 1}, {28, 66, 30, 2, 31, 8}},
+        {{2, 7}, {16, 9}},
+        {{45, 0xfc}, {45, 0xfd | 1 << 31}},
+        {{42, 33}, {44, -1}},
+        {{48, 1}, {109, 1}}};
     private static final Due DUE = new Due();
 
     public static void main(String[] args) {
@@ -12,27 +22,27 @@ public final class CheckerTest {
         clause1();
         clause2();
         clause3();
+        clauses3To5InEverySlotAndExtent();
         everyExtentCell();
         clause4();
         clause5();
+        everyLengthOfSomeRuns();
         clause6();
         clause7();
+        quotaOfAllBlocks();
         clause8();
         theLeastClauseAnswers();
+        theLeastOfEveryTwoClausesAnswers();
         journalNumbers();
+        journalOfEveryNumber();
+        journalNumbersOutside();
         journalOfAllCells();
         journalAddresses();
+        journalOfOneAddress();
+        journalOfTwoAddresses();
         journalCheck();
         journalMakesClean();
         DUE.end();
-    }
-
-    private static Counted down() {
-        Counted x = new Counted();
-        x.create(1, 0);
-        x.crashAfter(0);
-        x.sync();
-        return x;
     }
 
     /**
@@ -79,7 +89,7 @@ public final class CheckerTest {
     }
 
     private static void corruptPuts() {
-        Counted x = down();
+        Counted x = Scenes.down();
         int[] cells = {0, 1, 45, 109, 110, 111, 112, 331};
         for (int cell : cells) {
             DUE.is("corrupt " + cell, x.corrupt(cell, -5 - cell), true);
@@ -96,7 +106,7 @@ public final class CheckerTest {
         for (int cell : NO_CELLS) {
             DUE.is("up, cell " + cell, x.corrupt(cell, 1), false);
         }
-        x = down();
+        x = Scenes.down();
         for (int cell : NO_CELLS) {
             DUE.is("cell " + cell, x.corrupt(cell, 1), false);
         }
@@ -127,8 +137,8 @@ public final class CheckerTest {
     }
 
     private static void fsckLeavesTheDisk() {
-        Counted x = down();
-        putJournal(x, 43, 5, 44, 6);
+        Counted x = Scenes.down();
+        Scenes.putJournal(x, 43, 5, 44, 6);
         x.corrupt(0, -3);
         DUE.is("fsck", x.fsck(), 1);
         DUE.is("fsck again", x.fsck(), 1);
@@ -172,8 +182,11 @@ public final class CheckerTest {
         judged("an empty name of a file", 1, 0, 0);
         judged("an empty name of a file of length 0", 1, 7, 0);
         judged("an empty name, all 0", 0, 7, 0, 8, 0);
-        for (int cell = 21 + 1; cell < 21 + 7; cell++) {
-            judged("no name but cell " + cell, 1, cell, 1);
+        for (int cell = 21; cell < 42; cell++) {
+            if (cell % 7 != 0) {
+                judged("no name but cell " + cell, 1, cell, 1);
+                judged("no name but a negative cell " + cell, 1, cell, Integer.MIN_VALUE);
+            }
         }
         judged("length 64, but no blocks", 5, 9, 64);
     }
@@ -201,12 +214,49 @@ public final class CheckerTest {
         judged("the first is 0", 3, 3, 0);
     }
 
+    /** In each slot a file of four blocks, one a run, and each other slot with a file of one block. */
+    private static void clauses3To5InEverySlotAndExtent() {
+        for (int slot = 0; slot < 6; slot++) {
+            Counted x = Scenes.down();
+            for (int other = 0; other < 6; other++) {
+                put(x, new int[] {7 * other, 1 + other, 7 * other + 2, 1, 7 * other + 3, 1 + other});
+            }
+            put(x, new int[] {7 * slot + 2, 7, 7 * slot + 4, 11, 7 * slot + 5, 12, 7 * slot + 6, 13, 45, 0x1c3f});
+            DUE.is("slot " + slot, x.fsck(), 0);
+            for (int k = 0; k < 4; k++) {
+                int cell = 7 * slot + 3 + k;
+                int run = x.peek(cell);
+                breakAndMend(x, cell, 3, -1, 162, 34);
+                breakAndMend(x, cell, k < 3 ? 3 : 5, 0);
+                for (int other = 0; other < 6; other++) {
+                    breakAndMend(x, cell, other == slot && k == 0 ? 0 : 4, 1 + other);
+                }
+                for (int own = 1; own < 4; own++) {
+                    breakAndMend(x, cell, own == k ? 0 : 4, 10 + own);
+                }
+                breakAndMend(x, cell, 6, 32);
+                DUE.is("as it was", x.peek(cell), run);
+            }
+            breakAndMend(x, 7 * slot + 2, 5, 0, 1, 2, 3, 4, 5, 6, 9, 10, 64);
+            breakAndMend(x, 7 * slot + 2, 0, 7, 8);
+        }
+    }
+
+    private static void breakAndMend(Counted x, int cell, int code, int... words) {
+        int before = x.peek(cell);
+        for (int word : words) {
+            x.corrupt(cell, word);
+            DUE.is("cell " + cell + " as " + word, x.fsck(), code);
+        }
+        x.corrupt(cell, before);
+    }
+
     /** One file in the one run of its first extent: clean for runs alone. */
     private static void everyExtentCell() {
         for (int e = -40; e < 300; e++) {
             int first = (e - 1) & 31;
             int order = (e - 1) >> 5;
-            Counted x = down();
+            Counted x = Scenes.down();
             x.corrupt(0, 1);
             x.corrupt(3, e);
             if (e >= 1 && order <= 5 && first % (1 << order) == 0) {
@@ -250,6 +300,29 @@ public final class CheckerTest {
         judged("length 0 with its run", 5, 16, 0);
     }
 
+    /** One file of every length in runs of these orders, apart from one another. */
+    private static void everyLengthOfSomeRuns() {
+        int[][] orders = {{}, {0}, {1}, {4}, {0, 0}, {2, 1}, {1, 2}, {3, 0, 1}, {0, 0, 0, 0}, {3, 2, 1, 0}, {0, 1, 2, 3}};
+        for (int[] row : orders) {
+            Counted x = Scenes.down();
+            x.corrupt(0, 1);
+            int map = 0;
+            int blocks = 0;
+            for (int k = 0; k < row.length; k++) {
+                x.corrupt(3 + k, 1 + 8 * k + 32 * row[k]);
+                map |= (1 << (1 << row[k])) - 1 << 8 * k;
+                blocks += 1 << row[k];
+            }
+            x.corrupt(45, map);
+            int withoutLast = row.length == 0 ? -1 : blocks - (1 << row[row.length - 1]);
+            for (int length = 0; length <= 64; length++) {
+                x.corrupt(2, length);
+                boolean fits = 2 * withoutLast < length && length <= 2 * blocks;
+                DUE.is("length " + length + " in " + java.util.Arrays.toString(row), x.fsck(), fits ? 0 : 5);
+            }
+        }
+    }
+
     private static void clause6() {
         DUE.is("map", sample().peek(45), 0xfd);
         for (int b = 0; b < 32; b++) {
@@ -274,6 +347,18 @@ public final class CheckerTest {
         judged("another owner's file", 0, 43, 3, 15, 2);
         judged("another owner's file, too little", 7, 43, 2, 15, 2);
         judged("another owner's file, too much", 7, 44, 3, 15, 2);
+    }
+
+    private static void quotaOfAllBlocks() {
+        Counted x = Scenes.down();
+        put(x, new int[] {0, 1, 1, 2, 2, 64, 3, 161, 45, -1});
+        DUE.is("32 blocks, quota 32", x.fsck(), 0);
+        put(x, new int[] {44, 31});
+        DUE.is("32 blocks, quota 31", x.fsck(), 7);
+        put(x, new int[] {44, 33});
+        DUE.is("32 blocks, quota 33", x.fsck(), 7);
+        put(x, new int[] {42, 0, 43, 0, 44, 32});
+        DUE.is("the others' quotas 0", x.fsck(), 0);
     }
 
     private static void clause8() {
@@ -301,20 +386,32 @@ public final class CheckerTest {
         DUE.is("mount", x.mount(), BuddyFiles.UNCLEAN);
     }
 
-    /** The cells behind the number, so that the journal holds. */
-    private static void putJournal(Counted x, int... pairs) {
-        int check = pairs.length / 2;
-        for (int i = 0; i < pairs.length; i++) {
-            x.corrupt(112 + i, pairs[i]);
-            check = check * 31 + pairs[i];
+    private static void theLeastOfEveryTwoClausesAnswers() {
+        for (int least = 1; least <= 8; least++) {
+            for (int other = least; other <= 8; other++) {
+                for (int[] first : BREAKERS[least - 1]) {
+                    for (int[] second : BREAKERS[other - 1]) {
+                        Counted x = sample();
+                        put(x, second);
+                        put(x, first);
+                        DUE.is("clauses " + least + " and " + other, x.fsck(), least);
+                        DUE.is("clauses " + least + " and " + other, x.mount(), BuddyFiles.UNCLEAN);
+                    }
+                }
+            }
         }
-        x.corrupt(111, check);
-        x.corrupt(110, pairs.length / 2);
+    }
+
+    /** Cells and words by turns. */
+    private static void put(Counted x, int[] cells) {
+        for (int i = 0; i < cells.length; i += 2) {
+            DUE.is("corrupt " + cells[i], x.corrupt(cells[i], cells[i + 1]), true);
+        }
     }
 
     private static void journalNumbers() {
-        Counted x = down();
-        putJournal(x, 46, 1);
+        Counted x = Scenes.down();
+        Scenes.putJournal(x, 46, 1);
         DUE.is("holds", x.fsck(), 8);
         int[] numbers = {0, -1, 2, 3, 109, 110, 111, 112, Integer.MIN_VALUE, Integer.MAX_VALUE};
         for (int number : numbers) {
@@ -337,21 +434,94 @@ public final class CheckerTest {
         pairs[2 * 42 + 1] = 5;
         pairs[2 * 43 + 1] = 6;
         pairs[2 * 44 + 1] = 7;
-        Counted x = down();
+        Counted x = Scenes.down();
         x.corrupt(0, -1);
         x.corrupt(109, -1);
         DUE.is("before", x.fsck(), 1);
-        putJournal(x, pairs);
+        Scenes.putJournal(x, pairs);
         DUE.is("all 110 pairs", x.fsck(), 0);
         DUE.is("mount", x.mount(), 0);
         DUE.is("first", x.peek(0), 0);
         DUE.is("quota", x.peek(43), 6);
         DUE.is("last", x.peek(109), 0);
-        x = down();
-        putJournal(x, pairs);
+        x = Scenes.down();
+        Scenes.putJournal(x, pairs);
         x.corrupt(110, 111);
         x.corrupt(0, -1);
         DUE.is("111 pairs do not hold", x.fsck(), 1);
+    }
+
+    /** The words of a formatted home for the cells 0 .. n - 1. */
+    private static int[] pairsOfFreshHome(int n) {
+        int[] pairs = new int[2 * n];
+        for (int i = 0; i < n; i++) {
+            pairs[2 * i] = i;
+            pairs[2 * i + 1] = i >= 42 && i <= 44 ? 32 : 0;
+        }
+        return pairs;
+    }
+
+    private static void journalOfEveryNumber() {
+        for (int n = 1; n <= 110; n++) {
+            Counted x = Scenes.down();
+            Scenes.putJournal(x, pairsOfFreshHome(n));
+            DUE.is("spoilt cell " + (n - 1), x.corrupt(n - 1, -1), true);
+            DUE.is("holds with " + n, x.fsck(), 0);
+            DUE.is("mount with " + n, x.mount(), 0);
+            DUE.is("number after " + n, x.peek(110), 0);
+            DUE.is("the last address of " + n, x.peek(n - 1), n >= 43 && n <= 45 ? 32 : 0);
+        }
+    }
+
+    /** The check is what the rule would give for such a number: over no pairs below 1, over all there are above 110. */
+    private static void journalNumbersOutside() {
+        int[] numbers = {0, -1, -110, Integer.MIN_VALUE, 111, 112, Integer.MAX_VALUE};
+        for (int number : numbers) {
+            Counted x = Scenes.down();
+            int[] pairs = pairsOfFreshHome(110);
+            Scenes.putJournal(x, pairs);
+            int check = number;
+            for (int i = 0; i < pairs.length && number > 0; i++) {
+                check = check * 31 + pairs[i];
+            }
+            x.corrupt(111, check);
+            x.corrupt(110, number);
+            x.corrupt(44, 31);
+            DUE.is("fsck with " + number, x.fsck(), 0);
+            DUE.is("mount with " + number, x.mount(), 0);
+            DUE.is("number " + number + " stays", x.peek(110), number);
+            DUE.is("nothing was put with " + number, x.peek(44), 31);
+        }
+    }
+
+    private static void journalOfOneAddress() {
+        for (int address = -3; address <= 335; address++) {
+            oneAddress(address);
+        }
+        oneAddress(Integer.MIN_VALUE);
+        oneAddress(Integer.MAX_VALUE);
+    }
+
+    private static void oneAddress(int address) {
+        boolean holds = address >= 0 && address <= 109;
+        Counted x = Scenes.down();
+        Scenes.putJournal(x, address, x.peek(address));
+        DUE.is("fsck with address " + address, x.fsck(), 0);
+        DUE.is("mount with address " + address, x.mount(), 0);
+        DUE.is("number after address " + address, x.peek(110), holds ? 0 : 1);
+    }
+
+    private static void journalOfTwoAddresses() {
+        int[] addresses = {-1, 0, 1, 2, 41, 45, 46, 108, 109, 110, Integer.MIN_VALUE, Integer.MAX_VALUE};
+        for (int first : addresses) {
+            for (int second : addresses) {
+                boolean holds = 0 <= first && first < second && second <= 109;
+                Counted x = Scenes.down();
+                Scenes.putJournal(x, first, 0, second, 0);
+                DUE.is("mount with " + first + " and " + second, x.mount(), 0);
+                DUE.is("number after " + first + " and " + second, x.peek(110), holds ? 0 : 2);
+            }
+        }
     }
 
     private static void journalAddresses() {
@@ -359,24 +529,24 @@ public final class CheckerTest {
             {46, 1, 110, 1}, {46, 1, 111, 0}, {46, 1, 331, 0}, {46, 1, 332, 0}, {46, 1, Integer.MAX_VALUE, 0},
             {46, 1, 50, 1, 48, 0}, {46, 1, 47, 0, 47, 1}, {110, 1}, {-1, 1}};
         for (int i = 0; i < journals.length; i++) {
-            Counted x = down();
-            putJournal(x, journals[i]);
+            Counted x = Scenes.down();
+            Scenes.putJournal(x, journals[i]);
             DUE.is("journal " + i + " fsck", x.fsck(), 0);
             DUE.is("journal " + i + " mount", x.mount(), 0);
             DUE.is("journal " + i + " was not put", x.peek(46), 0);
         }
-        Counted x = down();
-        putJournal(x, 0, 0, 109, 1);
+        Counted x = Scenes.down();
+        Scenes.putJournal(x, 0, 0, 109, 1);
         DUE.is("least and greatest", x.fsck(), 8);
-        x = down();
-        putJournal(x, 108, 1, 109, 1);
+        x = Scenes.down();
+        Scenes.putJournal(x, 108, 1, 109, 1);
         DUE.is("neighbours", x.mount(), BuddyFiles.UNCLEAN);
         DUE.is("put", x.peek(109), 1);
     }
 
     private static void journalCheck() {
-        Counted x = down();
-        putJournal(x, 43, 5, 46, Integer.MIN_VALUE, 109, Integer.MAX_VALUE);
+        Counted x = Scenes.down();
+        Scenes.putJournal(x, 43, 5, 46, Integer.MIN_VALUE, 109, Integer.MAX_VALUE);
         int check = x.peek(111);
         DUE.is("right", x.fsck(), 8);
         for (int bit = 0; bit < 32; bit++) {
@@ -399,7 +569,7 @@ public final class CheckerTest {
         x.corrupt(1, 9);
         x.corrupt(45, 9);
         DUE.is("unclean", x.fsck(), 1);
-        putJournal(x, 1, 1, 45, 0xfd);
+        Scenes.putJournal(x, 1, 1, 45, 0xfd);
         DUE.is("with the journal", x.fsck(), 0);
         DUE.is("mount", x.mount(), 0);
         DUE.is("owner", x.peek(1), 1);

@@ -14,25 +14,21 @@ public final class FilesTest {
         createAnswersTheLeastSlot();
         createRefuses();
         createRefusesInOrder();
+        createFillsEverySlot();
         unlinkTakesAway();
         unlinkRefuses();
         openAnswersTheLeastHandle();
         openRefuses();
         closeCloses();
         closeRefuses();
+        everyHandleMakesBusy();
         renameNames();
         renameReplaces();
         renameRefuses();
+        renameRefusesInOrder();
+        renameToTheEndsOfTheNames();
         allRefuseWhenDown();
         DUE.end();
-    }
-
-    private static Counted down() {
-        Counted x = new Counted();
-        x.create(1, 0);
-        x.crashAfter(0);
-        x.sync();
-        return x;
     }
 
     private static void isFresh(String when, Counted x) {
@@ -68,6 +64,8 @@ public final class FilesTest {
         x.create(2, 1);
         x.open(1);
         x.open(2);
+        x.open(2);
+        x.open(1);
         x.write(0, 9, 5);
         x.setQuota(2, 3);
         x.sync();
@@ -78,7 +76,7 @@ public final class FilesTest {
 
     private static void formatWhileDown() {
         for (int part = 0; part < 4; part++) {
-            Counted x = down();
+            Counted x = Scenes.down();
             for (int cell = part; cell < 332; cell += 4) {
                 x.corrupt(cell, -7 - cell);
             }
@@ -154,6 +152,23 @@ public final class FilesTest {
         DUE.is("exists before no slot", x.create(4, 2), BuddyFiles.EXISTS);
         DUE.is("bad name before no slot", x.create(100, 2), BuddyFiles.BAD_ARGUMENT);
         DUE.is("bad owner before no slot", x.create(7, -1), BuddyFiles.BAD_ARGUMENT);
+    }
+
+    private static void createFillsEverySlot() {
+        for (int gone = 0; gone < 6; gone++) {
+            Counted x = new Counted();
+            for (int slot = 0; slot < 6; slot++) {
+                DUE.is("create " + slot, x.create(99 - slot, slot % 3), slot);
+            }
+            DUE.is("six files", x.create(1, 0), BuddyFiles.NO_SLOT);
+            DUE.is("unlink in slot " + gone, x.unlink(99 - gone), 0);
+            DUE.is("the slot without a file", x.create(1, 2), gone);
+            DUE.is("six again", x.create(99 - gone, 0), BuddyFiles.NO_SLOT);
+            for (int slot = 0; slot < 6; slot++) {
+                int name = slot == gone ? 1 : 99 - slot;
+                DUE.is("exists in slot " + slot, x.create(name, 0), BuddyFiles.EXISTS);
+            }
+        }
     }
 
     private static void unlinkTakesAway() {
@@ -258,6 +273,27 @@ public final class FilesTest {
         DUE.is("twice", x.close(0), BuddyFiles.BAD_HANDLE);
     }
 
+    /** Only one handle is open, each time another. */
+    private static void everyHandleMakesBusy() {
+        for (int left = 0; left < 4; left++) {
+            Counted x = new Counted();
+            x.create(1, 0);
+            x.create(2, 0);
+            for (int handle = 0; handle < 4; handle++) {
+                DUE.is("open", x.open(1), handle);
+            }
+            DUE.is("a fifth", x.open(1), BuddyFiles.NO_HANDLE);
+            for (int handle = 0; handle < 4; handle++) {
+                DUE.is("close " + handle, handle == left ? 0 : x.close(handle), 0);
+            }
+            DUE.is("unlink while handle " + left + " is open", x.unlink(1), BuddyFiles.BUSY);
+            DUE.is("rename while handle " + left + " is open", x.rename(2, 1), BuddyFiles.BUSY);
+            DUE.is("close " + left, x.close(left), 0);
+            DUE.is("rename", x.rename(2, 1), 0);
+            DUE.is("unlink", x.unlink(1), 0);
+        }
+    }
+
     private static void renameNames() {
         Counted x = new Counted();
         x.create(1, 2);
@@ -311,12 +347,38 @@ public final class FilesTest {
         DUE.is("named 1", x.open(1), 1);
     }
 
+    private static void renameRefusesInOrder() {
+        Counted x = new Counted();
+        x.create(1, 0);
+        x.create(2, 0);
+        x.open(2);
+        DUE.is("no file before busy", x.rename(3, 2), BuddyFiles.NO_FILE);
+        DUE.is("no file before bad argument", x.rename(3, 0), BuddyFiles.NO_FILE);
+        DUE.is("bad argument, though from is open", x.rename(2, 100), BuddyFiles.BAD_ARGUMENT);
+        DUE.is("the same name is not busy", x.rename(2, 2), 0);
+        DUE.is("nothing changed", x.open(2), 1);
+    }
+
+    private static void renameToTheEndsOfTheNames() {
+        Counted x = new Counted();
+        x.create(50, 0);
+        DUE.is("to 1", x.rename(50, 1), 0);
+        DUE.is("to 99", x.rename(1, 99), 0);
+        DUE.is("to 100", x.rename(99, 100), BuddyFiles.BAD_ARGUMENT);
+        DUE.is("to 0", x.rename(99, 0), BuddyFiles.BAD_ARGUMENT);
+        DUE.is("from 100", x.rename(100, 5), BuddyFiles.NO_FILE);
+        DUE.is("from 0", x.rename(0, 5), BuddyFiles.NO_FILE);
+        DUE.is("still 99", x.unlink(99), 0);
+    }
+
     private static void allRefuseWhenDown() {
-        Counted x = down();
+        Counted x = Scenes.down();
         DUE.is("create", x.create(1, 0), BuddyFiles.DOWN);
         DUE.is("create bad", x.create(0, 9), BuddyFiles.DOWN);
         DUE.is("unlink", x.unlink(1), BuddyFiles.DOWN);
+        DUE.is("unlink bad", x.unlink(0), BuddyFiles.DOWN);
         DUE.is("open", x.open(1), BuddyFiles.DOWN);
+        DUE.is("open bad", x.open(0), BuddyFiles.DOWN);
         DUE.is("close", x.close(0), BuddyFiles.DOWN);
         DUE.is("close bad", x.close(9), BuddyFiles.DOWN);
         DUE.is("rename", x.rename(1, 2), BuddyFiles.DOWN);

@@ -7,14 +7,24 @@ public final class SpaceTest {
         setQuotaSets();
         setQuotaRefuses();
         quotaBoundsAllFilesOfAnOwner();
+        quotaCountsWholeRuns();
+        quotaAtTheEnds();
         usageCounts();
         usageRefuses();
         freeCounts();
+        freeBesideEachBlock();
         freeRefuses();
         eachLengthTakesTheLeastOrder();
+        eachMissingNumberTakesTheLeastOrder();
+        eachOrderSplitsTheWhole();
+        growthWithinTheBlocksTakesNothing();
         takesTheLeastOrderThenTheFirst();
+        takesTheLastBlock();
         takesTheGreatestSmallerOrder();
+        takesTheFirstOfTheGreatestSmallerOrder();
         aFifthExtentIsNoSpace();
+        noBlockFreeIsNoSpace();
+        growthUsesEveryExtent();
         refusedGrowthPutsAllBack();
         shrinkingKeepsTheLastRunNeeded();
         shrinkingGivesBackFromTheEnd();
@@ -88,6 +98,39 @@ public final class SpaceTest {
         DUE.is("now there", x.write(0, 4, 1), 0);
     }
 
+    /** 2^r blocks are used where fewer are needed. */
+    private static void quotaCountsWholeRuns() {
+        for (int order = 0; order <= 5; order++) {
+            int blocks = 1 << order;
+            for (int length = blocks; length <= 2 * blocks; length++) {
+                boolean needsAll = length > blocks || order == 0;
+                Counted x = withFiles(1);
+                x.setQuota(0, blocks - 1);
+                DUE.is("one block too few for " + length, x.truncate(0, length), needsAll ? BuddyFiles.OVER_QUOTA : 0);
+                DUE.is("length", x.length(0), needsAll ? 0 : length);
+                x.setQuota(0, blocks);
+                DUE.is("enough for " + length, x.truncate(0, length), 0);
+                DUE.is("usage", x.usage(0), needsAll ? blocks : blocks / 2);
+            }
+        }
+    }
+
+    private static void quotaAtTheEnds() {
+        Counted x = withFiles(1);
+        DUE.is("0 at usage 0", x.setQuota(0, 0), 0);
+        DUE.is("nothing fits", x.write(0, 0, 1), BuddyFiles.OVER_QUOTA);
+        DUE.is("staying fits", x.truncate(0, 0), 0);
+        DUE.is("32", x.setQuota(0, 32), 0);
+        DUE.is("all fits", x.truncate(0, 64), 0);
+        DUE.is("31 at usage 32", x.setQuota(0, 31), BuddyFiles.BELOW_USAGE);
+        DUE.is("0 at usage 32", x.setQuota(0, 0), BuddyFiles.BELOW_USAGE);
+        DUE.is("32 at usage 32", x.setQuota(0, 32), 0);
+        DUE.is("33", x.setQuota(0, 33), BuddyFiles.BAD_ARGUMENT);
+        DUE.is("-1", x.setQuota(0, -1), BuddyFiles.BAD_ARGUMENT);
+        DUE.is("shrunk", x.truncate(0, 0), 0);
+        DUE.is("0 again", x.setQuota(0, 0), 0);
+    }
+
     private static void usageCounts() {
         Counted x = withFiles(4);
         DUE.is("nothing", x.usage(0), 0);
@@ -133,6 +176,28 @@ public final class SpaceTest {
         freeIs("none", x, 0, 0, 0, 0, 0, 0);
     }
 
+    /** With one block used there is one free run of each order but the greatest, wherever the block lies. */
+    private static void freeBesideEachBlock() {
+        for (int block = 0; block < 32; block++) {
+            Counted x = Scenes.down();
+            x.corrupt(0, 1);
+            x.corrupt(2, 1);
+            x.corrupt(3, run(block, 0));
+            x.corrupt(45, 1 << block);
+            DUE.is("mount", x.mount(), 0);
+            freeIs("block " + block, x, 1, 1, 1, 1, 1, 0);
+            x.create(2, 0);
+            for (int order = 0; order <= 4; order++) {
+                x.open(2);
+                x.truncate(0, 2 << order);
+                int beside = (block >> order ^ 1) << order;
+                DUE.is("order " + order + " beside block " + block, x.extent(0, 0), run(beside, order));
+                x.truncate(0, 0);
+                x.close(0);
+            }
+        }
+    }
+
     private static void freeRefuses() {
         Counted x = withFiles(1);
         int[] orders = {-1, 6, 31, 32, Integer.MIN_VALUE, Integer.MAX_VALUE};
@@ -155,6 +220,50 @@ public final class SpaceTest {
             x.sync();
             DUE.is("fsck of length " + length, x.fsck(), 0);
         }
+    }
+
+    /** Block 0 is the file's, so that one run each of the orders 0 .. 4 is free: that of order r begins at block 2^r. */
+    private static void eachMissingNumberTakesTheLeastOrder() {
+        for (int missing = 1; missing <= 31; missing++) {
+            Counted x = withFiles(1);
+            x.truncate(0, 1);
+            String what = missing + " blocks more";
+            DUE.is(what, x.truncate(0, 2 + 2 * missing), missing > 28 ? BuddyFiles.NO_SPACE : 0);
+            int greatest = 4;
+            int rest = missing > 28 ? 0 : missing;
+            for (int k = 1; k <= 3; k++) {
+                int order = 0;
+                while (order < greatest && 1 << order < rest) {
+                    order++;
+                }
+                DUE.is(what + ", extent " + k, x.extent(0, k), rest > 0 ? run(1 << order, order) : 0);
+                rest -= 1 << order;
+                greatest = order - 1;
+            }
+        }
+    }
+
+    private static void eachOrderSplitsTheWhole() {
+        for (int order = 0; order <= 5; order++) {
+            Counted x = withFiles(1);
+            x.truncate(0, 2 << order);
+            for (int other = 0; other <= 5; other++) {
+                boolean left = other >= order && other < 5;
+                DUE.is("order " + order + " taken, free " + other, x.free(other), left ? 1 : 0);
+            }
+        }
+    }
+
+    private static void growthWithinTheBlocksTakesNothing() {
+        Counted x = withFiles(2);
+        x.truncate(0, 33);
+        x.truncate(0, 1);
+        x.setQuota(0, 32);
+        freeIs("nothing is free", x, 0, 0, 0, 0, 0, 0);
+        DUE.is("all 32 blocks are there", x.truncate(0, 64), 0);
+        DUE.is("one run", x.extent(0, 0), run(0, 5));
+        DUE.is("no second", x.extent(0, 1), 0);
+        DUE.is("usage", x.usage(0), 32);
     }
 
     /** Blocks 0 and 2 .. 3 become free while 1 and 4 .. 7 are used: one run of each of the orders 0, 1, 3, 4. */
@@ -189,6 +298,32 @@ public final class SpaceTest {
         DUE.is("the first eight", x.extent(2, 0), run(0, 3));
     }
 
+    private static void takesTheLastBlock() {
+        Counted x = withFiles(4);
+        int[] firsts = {0, 16, 24, 28};
+        for (int k = 0; k < 4; k++) {
+            x.truncate(k, 32 >> k);
+            DUE.is("order " + (4 - k), x.extent(k, 0), run(firsts[k], 4 - k));
+        }
+        x.close(0);
+        x.close(1);
+        x.create(5, 0);
+        x.create(6, 0);
+        x.open(5);
+        x.open(6);
+        freeIs("the last two", x, 0, 1, 0, 0, 0, 0);
+        x.write(0, 1, 5);
+        DUE.is("the last but one", x.extent(0, 0), run(30, 0));
+        freeIs("the last", x, 1, 0, 0, 0, 0, 0);
+        x.write(1, 1, 6);
+        DUE.is("the last", x.extent(1, 0), run(31, 0));
+        freeIs("none", x, 0, 0, 0, 0, 0, 0);
+        DUE.is("no block", x.write(1, 2, 7), BuddyFiles.NO_SPACE);
+        x.sync();
+        DUE.is("the last word", x.peek(109), 6);
+        DUE.is("map", x.peek(45), -1);
+    }
+
     private static void takesTheGreatestSmallerOrder() {
         Counted x = withFiles(3);
         x.truncate(0, 1);
@@ -214,6 +349,50 @@ public final class SpaceTest {
             DUE.is("word " + i, x.peek(46 + i), 700 + p);
         }
         DUE.is("fsck", x.fsck(), 0);
+    }
+
+    /** Blocks 2 .. 3 and 6 .. 7 are free; all others are used. */
+    private static void takesTheFirstOfTheGreatestSmallerOrder() {
+        Counted x = withFiles(4);
+        x.truncate(0, 4);
+        x.truncate(1, 4);
+        x.truncate(2, 4);
+        x.truncate(3, 4);
+        x.truncate(0, 52);
+        x.truncate(1, 0);
+        x.truncate(3, 0);
+        freeIs("two runs", x, 0, 2, 0, 0, 0, 0);
+        DUE.is("four blocks", x.truncate(1, 8), 0);
+        DUE.is("the first", x.extent(1, 0), run(2, 1));
+        DUE.is("then the second", x.extent(1, 1), run(6, 1));
+        DUE.is("no more", x.extent(1, 2), 0);
+    }
+
+    /** The file has fewer than four runs, so that a further extent is not what is missing. */
+    private static void noBlockFreeIsNoSpace() {
+        for (int runs = 0; runs <= 3; runs++) {
+            Counted x = withFiles(3);
+            for (int k = 1; k <= runs; k++) {
+                x.truncate(0, 2 * k);
+                x.truncate(1, 2 * k);
+            }
+            DUE.is("all other blocks", x.truncate(2, 64 - 4 * runs), 0);
+            freeIs("full with " + runs, x, 0, 0, 0, 0, 0, 0);
+            DUE.is("a block more", x.write(0, 2 * runs, 1), BuddyFiles.NO_SPACE);
+            DUE.is("length", x.length(0), 2 * runs);
+            DUE.is("usage", x.usage(0), runs);
+        }
+    }
+
+    private static void growthUsesEveryExtent() {
+        Counted x = withFiles(2);
+        x.truncate(1, 2);
+        DUE.is("30 blocks in four runs", x.truncate(0, 60), 0);
+        DUE.is("the fourth", x.extent(0, 3), run(2, 1));
+        DUE.is("usage", x.usage(0), 30);
+        DUE.is("the block that is left", x.free(0), 1);
+        DUE.is("is not for a fifth", x.truncate(0, 61), BuddyFiles.NO_SPACE);
+        DUE.is("length", x.length(0), 60);
     }
 
     private static void aFifthExtentIsNoSpace() {

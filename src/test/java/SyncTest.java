@@ -4,6 +4,7 @@ public final class SyncTest {
 
     public static void main(String[] args) {
         syncAnswersTheChanges();
+        syncWithoutAChangeWritesNothing();
         syncWritesTheJournal();
         syncOfEverything();
         syncLeavesMemory();
@@ -13,36 +14,18 @@ public final class SyncTest {
         fuseStandsWhenNothingIsWritten();
         fuseIsGoneAfterwards();
         fuseIsReplaced();
+        fuseAtEachCellOfOneChange();
+        handlesAreGoneAfterwards();
         crashAfterRefuses();
         mountTakesTheDisk();
         mountRefuses();
         mountReplaysAlsoAnUncleanHome();
+        mountChangesHomeAndTheNumberAlone();
         mountLeavesAJournalThatDoesNotHold();
         syncOverAStaleJournal();
+        syncRefusesWhenDown();
         allRefuseWhenDown();
         DUE.end();
-    }
-
-    private static int[] diskOf(Counted x) {
-        int[] cells = new int[332];
-        for (int cell = 0; cell < 332; cell++) {
-            cells[cell] = x.peek(cell);
-        }
-        return cells;
-    }
-
-    private static int[] homeOf(Counted x) {
-        int[] cells = new int[110];
-        for (int cell = 0; cell < 110; cell++) {
-            cells[cell] = x.peek(cell);
-        }
-        return cells;
-    }
-
-    private static void isDisk(String when, Counted x, int[] want) {
-        for (int cell = 0; cell < 332; cell++) {
-            DUE.is(when + " peek(" + cell + ")", x.peek(cell), want[cell]);
-        }
     }
 
     /** One file with three words on the disk, and two more changes in memory. */
@@ -73,6 +56,21 @@ public final class SyncTest {
         x.unlink(6);
         x.create(7, 1);
         DUE.is("another name", x.sync(), 1);
+    }
+
+    /** Also the number that a journal left behind, which does not hold, stays. */
+    private static void syncWithoutAChangeWritesNothing() {
+        Counted x = withWrongCheck();
+        int[] before = Scenes.diskOf(withWrongCheck());
+        DUE.is("mount", x.mount(), 0);
+        DUE.is("nothing", x.sync(), 0);
+        DUE.is("a fuse for no cell", x.crashAfter(0), true);
+        DUE.is("nothing", x.sync(), 0);
+        x.create(1, 0);
+        x.unlink(1);
+        DUE.is("nothing any more", x.sync(), 0);
+        Scenes.isDisk(DUE, "nothing", x, before);
+        DUE.is("up", x.usage(0), 0);
     }
 
     private static void syncWritesTheJournal() {
@@ -139,7 +137,7 @@ public final class SyncTest {
     /** What stands on the disk after so many of the cells of the sync of withChanges(). */
     private static int[] diskAfter(int cells) {
         Counted x = withChanges();
-        int[] disk = diskOf(x);
+        int[] disk = Scenes.diskOf(x);
         int[] order = {112, 2, 113, 5, 114, 4, 115, 3, 116, 45, 117, 7, 118, 46, 119, -78, 120, 50, 121, 79,
             111, 0, 110, 5, 2, 5, 4, 3, 45, 7, 46, -78, 50, 79, 110, 0};
         int check = 5;
@@ -160,7 +158,7 @@ public final class SyncTest {
             Counted x = withChanges();
             DUE.is(when, x.crashAfter(n), true);
             DUE.is(when + " sync", x.sync(), n < all ? BuddyFiles.DOWN : 5);
-            isDisk(when, x, diskAfter(n < all ? n : all));
+            Scenes.isDisk(DUE, when, x, diskAfter(n < all ? n : all));
         }
         for (int n = 0; n < all; n++) {
             String when = "fuse " + n;
@@ -210,9 +208,9 @@ public final class SyncTest {
 
     private static void powerGoesInALongSync() {
         Counted x = withManyChanges();
-        int[] before = homeOf(x);
+        int[] before = Scenes.homeOf(x);
         int changes = x.sync();
-        int[] after = homeOf(x);
+        int[] after = Scenes.homeOf(x);
         DUE.is("many changes", changes > 30, true);
         for (int n = 0; n < 3 * changes + 3; n++) {
             x = withManyChanges();
@@ -272,6 +270,7 @@ public final class SyncTest {
 
     private static void fuseIsReplaced() {
         Counted x = new Counted();
+        DUE.is("none, where none was", x.crashAfter(-1), true);
         DUE.is("set", x.crashAfter(0), true);
         DUE.is("replaced by a greater", x.crashAfter(6), true);
         x.create(1, 0);
@@ -285,6 +284,44 @@ public final class SyncTest {
         DUE.is("replaced by a smaller", x.crashAfter(5), true);
         x.create(4, 0);
         DUE.is("5 of 6", x.sync(), BuddyFiles.DOWN);
+    }
+
+    /** One change takes six cells: a pair, check, number, home, number. */
+    private static void fuseAtEachCellOfOneChange() {
+        int[] cells = {112, 113, 111, 110, 44, 110};
+        int[] words = {44, 7, (31 + 44) * 31 + 7, 1, 7, 0};
+        for (int n = 0; n <= 6; n++) {
+            int[] want = Scenes.diskOf(new Counted());
+            for (int i = 0; i < n; i++) {
+                want[cells[i]] = words[i];
+            }
+            Counted x = new Counted();
+            x.setQuota(2, 7);
+            x.crashAfter(n);
+            DUE.is("fuse " + n, x.sync(), n < 6 ? BuddyFiles.DOWN : 1);
+            Scenes.isDisk(DUE, "fuse " + n, x, want);
+            DUE.is("mount " + n, x.mount(), n < 6 ? 0 : BuddyFiles.BUSY);
+            DUE.is("quota " + n, x.peek(44), n < 4 ? 32 : 7);
+            DUE.is("number " + n, x.peek(110), 0);
+        }
+    }
+
+    private static void handlesAreGoneAfterwards() {
+        Counted x = new Counted();
+        x.create(1, 0);
+        x.sync();
+        for (int handle = 0; handle < 4; handle++) {
+            x.open(1);
+        }
+        x.create(2, 0);
+        x.crashAfter(0);
+        x.sync();
+        x.mount();
+        for (int handle = 0; handle < 4; handle++) {
+            DUE.is("handle " + handle, x.close(handle), BuddyFiles.BAD_HANDLE);
+        }
+        DUE.is("no handle makes it busy", x.unlink(1), 0);
+        DUE.is("nor is the other file there", x.open(2), BuddyFiles.NO_FILE);
     }
 
     private static void crashAfterRefuses() {
@@ -319,7 +356,7 @@ public final class SyncTest {
     private static void mountTakesTheDisk() {
         Counted x = withChangedDisk();
         DUE.is("mount", x.mount(), 0);
-        isDisk("mount", x, diskOf(withChangedDisk()));
+        Scenes.isDisk(DUE, "mount", x, Scenes.diskOf(withChangedDisk()));
         DUE.is("no such file", x.open(5), BuddyFiles.NO_FILE);
         DUE.is("its name", x.open(6), 0);
         DUE.is("its word", x.read(0, 2), 1234);
@@ -330,7 +367,7 @@ public final class SyncTest {
     }
 
     private static Counted withUncleanDisk() {
-        Counted x = downAndEmpty();
+        Counted x = Scenes.down();
         x.corrupt(45, 1);
         x.corrupt(331, 5);
         return x;
@@ -345,7 +382,7 @@ public final class SyncTest {
         x = withUncleanDisk();
         DUE.is("unclean", x.mount(), BuddyFiles.UNCLEAN);
         DUE.is("unclean again", x.mount(), BuddyFiles.UNCLEAN);
-        isDisk("unclean", x, diskOf(withUncleanDisk()));
+        Scenes.isDisk(DUE, "unclean", x, Scenes.diskOf(withUncleanDisk()));
         DUE.is("down", x.open(1), BuddyFiles.DOWN);
         DUE.is("down", x.crashAfter(1), false);
         DUE.is("corrupt", x.corrupt(45, 0), true);
@@ -353,27 +390,9 @@ public final class SyncTest {
         DUE.is("up", x.mount(), BuddyFiles.BUSY);
     }
 
-    private static void putJournal(Counted x, int... pairs) {
-        int check = pairs.length / 2;
-        for (int i = 0; i < pairs.length; i++) {
-            x.corrupt(112 + i, pairs[i]);
-            check = check * 31 + pairs[i];
-        }
-        x.corrupt(111, check);
-        x.corrupt(110, pairs.length / 2);
-    }
-
-    private static Counted downAndEmpty() {
-        Counted x = new Counted();
-        x.create(1, 0);
-        x.crashAfter(0);
-        x.sync();
-        return x;
-    }
-
     private static void mountReplaysAlsoAnUncleanHome() {
-        Counted x = downAndEmpty();
-        putJournal(x, 43, 5, 46, 9);
+        Counted x = Scenes.down();
+        Scenes.putJournal(x, 43, 5, 46, 9);
         DUE.is("fsck", x.fsck(), 8);
         DUE.is("mount", x.mount(), BuddyFiles.UNCLEAN);
         DUE.is("quota was put", x.peek(43), 5);
@@ -388,9 +407,31 @@ public final class SyncTest {
         DUE.is("in sync", x.sync(), 0);
     }
 
+    /** Two pairs, and cells behind them; with a word in cell 46 the home is unclean. */
+    private static Counted withJournal(int word) {
+        Counted x = Scenes.down();
+        x.corrupt(116, 47);
+        x.corrupt(117, 9);
+        x.corrupt(331, 5);
+        Scenes.putJournal(x, 43, 5, 46, word);
+        return x;
+    }
+
+    private static void mountChangesHomeAndTheNumberAlone() {
+        for (int word = 0; word <= 1; word++) {
+            int[] want = Scenes.diskOf(withJournal(word));
+            want[43] = 5;
+            want[46] = word;
+            want[110] = 0;
+            Counted x = withJournal(word);
+            DUE.is("mount", x.mount(), word == 0 ? 0 : BuddyFiles.UNCLEAN);
+            Scenes.isDisk(DUE, "mount", x, want);
+        }
+    }
+
     private static Counted withWrongCheck() {
-        Counted x = downAndEmpty();
-        putJournal(x, 43, 5);
+        Counted x = Scenes.down();
+        Scenes.putJournal(x, 43, 5);
         x.corrupt(111, x.peek(111) + 1);
         return x;
     }
@@ -398,7 +439,7 @@ public final class SyncTest {
     private static void mountLeavesAJournalThatDoesNotHold() {
         Counted x = withWrongCheck();
         DUE.is("mount", x.mount(), 0);
-        isDisk("mount", x, diskOf(withWrongCheck()));
+        Scenes.isDisk(DUE, "mount", x, Scenes.diskOf(withWrongCheck()));
         DUE.is("quota was not put", x.setQuota(1, 32), 0);
         DUE.is("in sync", x.sync(), 0);
         DUE.is("number stays", x.peek(110), 1);
@@ -407,8 +448,8 @@ public final class SyncTest {
     /** A number that a journal left behind stands while the next one is written. */
     private static void syncOverAStaleJournal() {
         for (int n = 0; n < 6; n++) {
-            Counted x = downAndEmpty();
-            putJournal(x, 43, 5);
+            Counted x = Scenes.down();
+            Scenes.putJournal(x, 43, 5);
             x.corrupt(111, (31 + 42) * 31 + 6);
             DUE.is("mount", x.mount(), 0);
             x.setQuota(0, 6);
@@ -420,10 +461,21 @@ public final class SyncTest {
         }
     }
 
+    /** Also where memory was the home on the disk when the power went, so that there would be no change. */
+    private static void syncRefusesWhenDown() {
+        for (int n = 0; n < 18; n++) {
+            Counted x = withChanges();
+            x.crashAfter(n);
+            DUE.is("goes down by the fuse at " + n, x.sync(), BuddyFiles.DOWN);
+            DUE.is("is down after " + n, x.sync(), BuddyFiles.DOWN);
+            Scenes.isDisk(DUE, "nothing more after " + n, x, diskAfter(n));
+        }
+    }
+
     private static void allRefuseWhenDown() {
-        Counted x = downAndEmpty();
+        Counted x = Scenes.down();
         DUE.is("sync", x.sync(), BuddyFiles.DOWN);
         DUE.is("sync", x.sync(), BuddyFiles.DOWN);
-        isDisk("down", x, diskOf(downAndEmpty()));
+        Scenes.isDisk(DUE, "down", x, Scenes.diskOf(Scenes.down()));
     }
 }

@@ -9,14 +9,19 @@ public final class WordsTest {
         writeFillsWithZeros();
         writeReachesEveryWord();
         writeCrossesRuns();
+        writeAtTheLengthGrowsByOne();
         writeRefuses();
         writeRefusesWhenFull();
         writeRefusesOverQuota();
+        readAtTheEnds();
         readAnswersZeroOutside();
+        wordsOfNeighboursAreOutside();
         truncateShrinks();
         truncateGrows();
         truncateStays();
         truncateRefuses();
+        truncateRefusesInOrder();
+        truncateToTheEnds();
         lengthAnswers();
         extentAnswers();
         allRefuseWhenDown();
@@ -101,6 +106,21 @@ public final class WordsTest {
         DUE.is("length stays", x.length(0), 8);
     }
 
+    /** The file keeps the one run that it had with 64 words. */
+    private static void writeAtTheLengthGrowsByOne() {
+        Counted x = withFile();
+        x.truncate(0, 64);
+        x.truncate(0, 1);
+        for (int p = 1; p < 64; p++) {
+            DUE.is("write " + p, x.write(0, p, -p), 0);
+            DUE.is("length " + p, x.length(0), p + 1);
+            DUE.is("read " + p, x.read(0, p), -p);
+            DUE.is("read behind " + p, x.read(0, p + 1), 0);
+        }
+        DUE.is("a position more", x.write(0, 64, 1), BuddyFiles.BAD_POSITION);
+        DUE.is("length", x.length(0), 64);
+    }
+
     private static void writeRefuses() {
         Counted x = withFile();
         for (int handle : NO_HANDLES) {
@@ -141,6 +161,20 @@ public final class WordsTest {
         DUE.is("within the length", x.write(0, 0, 2), 0);
     }
 
+    private static void readAtTheEnds() {
+        Counted x = withFile();
+        DUE.is("an empty file", x.read(0, 0), 0);
+        x.truncate(0, 64);
+        x.write(0, 0, 8);
+        x.write(0, 63, 9);
+        DUE.is("-1", x.read(0, -1), 0);
+        DUE.is("0", x.read(0, 0), 8);
+        DUE.is("63", x.read(0, 63), 9);
+        DUE.is("64", x.read(0, 64), 0);
+        x.truncate(0, 63);
+        DUE.is("63 of a shorter file", x.read(0, 63), 0);
+    }
+
     private static void readAnswersZeroOutside() {
         Counted x = withFile();
         x.write(0, 2, 7);
@@ -153,6 +187,31 @@ public final class WordsTest {
             DUE.is("read handle " + handle, x.read(handle, 2), 0);
         }
         DUE.is("length", x.length(0), 3);
+    }
+
+    /** The file has block 1; the blocks 0 and 2 on both sides are another's and full. */
+    private static void wordsOfNeighboursAreOutside() {
+        Counted x = withFile();
+        x.create(2, 1);
+        x.open(2);
+        x.truncate(1, 2);
+        x.truncate(0, 2);
+        x.truncate(1, 4);
+        for (int p = 0; p < 4; p++) {
+            x.write(1, p, 40 + p);
+        }
+        x.write(0, 0, 7);
+        DUE.is("its block", x.extent(0, 0), 2);
+        int[] outside = {-64, -3, -2, -1, 2, 3, 4, 63, 64};
+        for (int p : outside) {
+            DUE.is("read " + p, x.read(0, p), 0);
+        }
+        DUE.is("write -1", x.write(0, -1, 5), BuddyFiles.BAD_POSITION);
+        DUE.is("truncate -1", x.truncate(0, -1), BuddyFiles.BAD_POSITION);
+        x.truncate(0, 0);
+        for (int p = 0; p < 4; p++) {
+            DUE.is("the neighbour's " + p, x.read(1, p), 40 + p);
+        }
     }
 
     private static void truncateShrinks() {
@@ -230,6 +289,38 @@ public final class WordsTest {
         DUE.is("no space before over quota", x.truncate(0, 64), BuddyFiles.NO_SPACE);
         DUE.is("as it was", x.usage(0), 2);
         DUE.is("shrinking is not refused", x.truncate(0, 1), 0);
+    }
+
+    private static void truncateRefusesInOrder() {
+        Counted x = withFile();
+        x.create(2, 1);
+        x.open(2);
+        x.truncate(1, 64);
+        x.setQuota(0, 0);
+        DUE.is("bad handle before bad position", x.truncate(2, 65), BuddyFiles.BAD_HANDLE);
+        DUE.is("bad handle before no space", x.truncate(2, 1), BuddyFiles.BAD_HANDLE);
+        DUE.is("bad position before no space", x.truncate(0, 65), BuddyFiles.BAD_POSITION);
+        DUE.is("bad position, though shrinking", x.truncate(1, -1), BuddyFiles.BAD_POSITION);
+        DUE.is("no space before over quota", x.truncate(0, 1), BuddyFiles.NO_SPACE);
+        x.truncate(1, 0);
+        DUE.is("bad position before over quota", x.truncate(0, 65), BuddyFiles.BAD_POSITION);
+        DUE.is("over quota", x.truncate(0, 1), BuddyFiles.OVER_QUOTA);
+        DUE.is("staying is not refused", x.truncate(0, 0), 0);
+    }
+
+    private static void truncateToTheEnds() {
+        Counted x = withFile();
+        for (int round = 0; round < 2; round++) {
+            DUE.is("64", x.truncate(0, 64), 0);
+            DUE.is("length 64", x.length(0), 64);
+            DUE.is("64 again", x.truncate(0, 64), 0);
+            DUE.is("65", x.truncate(0, 65), BuddyFiles.BAD_POSITION);
+            DUE.is("-1", x.truncate(0, -1), BuddyFiles.BAD_POSITION);
+            DUE.is("length stays", x.length(0), 64);
+            DUE.is("0", x.truncate(0, 0), 0);
+            DUE.is("length 0", x.length(0), 0);
+            DUE.is("0 again", x.truncate(0, 0), 0);
+        }
     }
 
     private static void lengthAnswers() {
