@@ -484,7 +484,7 @@ public final class BuddyFiles {
             if (cell < 1 || cell > cellOf(0, TOP_ORDER)) {
                 return false;
             }
-            return firstOf(cell) % blocksOf(cell) == 0;
+            return (firstOf(cell) & (blocksOf(cell) - 1)) == 0;
         }
 
         static int bitsOf(int cell) {
@@ -686,7 +686,8 @@ public final class BuddyFiles {
         /** The extent cell of the run, or 0 when there is no free run of this order or more. */
         private int takeRun(int order) {
             for (int source = order; source <= TOP_ORDER; source++) {
-                for (int first = 0; first < BLOCKS; first += 1 << source) {
+                for (int i = 0; i < BLOCKS >> source; i++) {
+                    int first = i << source;
                     if (isFreeRun(first, source)) {
                         cells[MAP] |= Run.mapBits(first, order);
                         return Run.cellOf(first, order);
@@ -698,8 +699,8 @@ public final class BuddyFiles {
 
         int freeRunsOf(int order) {
             int runs = 0;
-            for (int first = 0; first < BLOCKS; first += 1 << order) {
-                if (isFreeRun(first, order)) {
+            for (int i = 0; i < BLOCKS >> order; i++) {
+                if (isFreeRun(i << order, order)) {
                     runs++;
                 }
             }
@@ -715,7 +716,7 @@ public final class BuddyFiles {
             if (order == TOP_ORDER) {
                 return true;
             }
-            int firstOfGreater = first - first % (2 << order);
+            int firstOfGreater = first & -(2 << order);
             return (map & Run.mapBits(firstOfGreater, order + 1)) != 0;
         }
 

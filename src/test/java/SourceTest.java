@@ -1,4 +1,3 @@
-import java.io.IOException;
 import java.lang.reflect.Constructor;
 import java.lang.reflect.Field;
 import java.lang.reflect.Method;
@@ -38,6 +37,8 @@ public final class SourceTest {
         library(code);
         objects(code);
         lengths(code);
+        divisors(code);
+        loops(code);
         DUE.end();
     }
 
@@ -161,19 +162,69 @@ public final class SourceTest {
         }
     }
 
-    /** Rule 11: from a line that opens a method to the line that closes it, by their indents. */
-    private static void lengths(String code) throws IOException {
+    private static int indentOf(String line) {
+        return line.length() - line.stripLeading().length();
+    }
+
+    /** The line that closes what a line opens, by their indents. */
+    private static int endOf(List<String> lines, int start) {
+        String close = " ".repeat(indentOf(lines.get(start))) + "}";
+        int last = start;
+        while (!lines.get(last).equals(close)) {
+            last++;
+        }
+        return last;
+    }
+
+    /** Rule 11. */
+    private static void lengths(String code) {
         List<String> lines = code.lines().toList();
         for (int i = 0; i < lines.size(); i++) {
             String line = lines.get(i);
-            int indent = line.length() - line.stripLeading().length();
+            int indent = indentOf(line);
             if (line.endsWith(") {") && (indent == 4 || indent == 8 && line.matches(" {8}(static |private )*[a-z\\[\\]]+ \\w+\\(.*"))) {
-                int last = i;
-                while (!lines.get(last).equals(" ".repeat(indent) + "}")) {
-                    last++;
-                }
-                DUE.is("short: " + line.strip(), last - i < 60, true);
+                DUE.is("short: " + line.strip(), endOf(lines, i) - i < 60, true);
             }
         }
+    }
+
+    /** Rule 7: the program divides by constants alone, so that no divisor has to be looked at. */
+    private static void divisors(String code) {
+        Matcher division = Pattern.compile("[%/]=?\\s*(\\S+)").matcher(code);
+        while (division.find()) {
+            boolean constant = division.group(1).matches("([A-Z_]+|[1-9]\\d*)[;),]*");
+            DUE.is("divides by a constant: " + division.group(), constant, true);
+        }
+    }
+
+    /** Rule 9: each loop counts by one towards a bound, and nothing else in it moves its counter. */
+    private static void loops(String code) {
+        Pattern counted = Pattern.compile("for \\(int (\\w+) = [^;]+; (?:\\1 <=? [^;]+; \\1\\+\\+|\\1 >=? [^;]+; \\1--)\\) \\{");
+        Pattern climbing = Pattern.compile("while \\((\\w+) < [A-Z_]+( && .*)?\\) \\{");
+        List<String> lines = code.lines().toList();
+        for (int i = 0; i < lines.size(); i++) {
+            String line = lines.get(i).strip();
+            if (!line.matches("\\}? ?(for|while|do)\\b.*")) {
+                continue;
+            }
+            Matcher loop = line.startsWith("for") ? counted.matcher(line) : climbing.matcher(line);
+            boolean ends = loop.matches();
+            DUE.is("has an end: " + line, ends, true);
+            if (ends) {
+                String body = String.join("\n", lines.subList(i + 1, endOf(lines, i)));
+                DUE.is("moves its counter: " + line, moves(body, loop.group(1)), line.startsWith("for") ? 0 : 1);
+            }
+        }
+    }
+
+    private static int moves(String body, String counter) {
+        String name = "\\b" + counter + "\\b";
+        String sign = "(\\+\\+|--|[-+*/%&|^]=|<<=|>>=|>>>=|=[^=])";
+        Matcher move = Pattern.compile(name + "\\s*" + sign + "|(\\+\\+|--)" + name).matcher(body);
+        int moves = 0;
+        while (move.find()) {
+            moves++;
+        }
+        return moves;
     }
 }
